@@ -73,6 +73,9 @@ public final class ShiftTest {
     checks.due("nextMatch -1", x.nextMatch(-1), 1);
     checks.due("nextMatch of the least int", x.nextMatch(LEAST), 1);
     checks.due("nextMatch of the greatest int", x.nextMatch(GREATEST), NONE);
+    WildcardMatcher first = Checks.of("1222", "1");
+    checks.due("nextMatch at the first shift from -1", first.nextMatch(-1), 0);
+    checks.due("nextMatch at the first shift from the least int", first.nextMatch(LEAST), 0);
     WildcardMatcher last = Checks.of("2221", "1");
     checks.due("nextMatch at the last shift", last.nextMatch(3), 3);
     checks.due("nextMatch past the last shift", last.nextMatch(4), NONE);
