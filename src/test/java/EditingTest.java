@@ -1,8 +1,5 @@
-// Promises 1 to 6: a new object, type, replace, shorten, letter, length.
+// Promises 1 to 6: a new object, type, replace, shorten, letter, length. Their boundaries are in EditingBoundaryTest.
 public final class EditingTest {
-  private static final boolean[] SIDES = {false, true};
-  private static final int[] NOT_LETTERS = {-1, 5, 6, -4, 256, 1 << 16, Integer.MIN_VALUE, Integer.MAX_VALUE};
-  private static final int[] NO_PLACES = {-1, -40, 12, 40, 41, 1 << 16, Integer.MIN_VALUE, Integer.MAX_VALUE};
   private static final String TEXT_40 = "0123412340432104321000112233441122334401";
   private static final String PATTERN_12 = "012344321013";
   private static final Checks checks = new Checks();
@@ -35,12 +32,12 @@ public final class EditingTest {
   }
 
   private static void promise2Type() {
-    for (boolean side : SIDES) {
+    for (boolean side : Checks.SIDES) {
       WildcardMatcher x = new WildcardMatcher();
       for (int letter = 0; letter <= 4; letter++) {
         checks.due("type " + letter, x.type(side, letter), letter + 1);
       }
-      for (int letter : NOT_LETTERS) {
+      for (int letter : Checks.NOT_LETTERS) {
         checks.due("type " + letter, x.type(side, letter), WildcardMatcher.BAD);
       }
       checks.dueLetters("typed", x, side, "01234");
@@ -56,10 +53,10 @@ public final class EditingTest {
     for (int i = 0; i < 12; i++) {
       checks.due("type pattern " + i, x.type(true, PATTERN_12.charAt(i) - '0'), i + 1);
     }
-    for (boolean side : SIDES) {
+    for (boolean side : Checks.SIDES) {
       checks.due("type when full", x.type(side, 1), WildcardMatcher.FULL);
       checks.due("type the wildcard when full", x.type(side, 0), WildcardMatcher.FULL);
-      for (int letter : NOT_LETTERS) {
+      for (int letter : Checks.NOT_LETTERS) {
         checks.due("type " + letter + " when full", x.type(side, letter), WildcardMatcher.FULL);
       }
     }
@@ -72,7 +69,7 @@ public final class EditingTest {
   }
 
   private static void promise3Replace() {
-    for (boolean side : SIDES) {
+    for (boolean side : Checks.SIDES) {
       WildcardMatcher x = Checks.of("11111", "11111");
       for (int i = 0; i < 5; i++) {
         checks.due("replace " + i, x.replace(side, i, 4 - i), true);
@@ -80,13 +77,12 @@ public final class EditingTest {
       checks.dueLetters("replaced", x, side, "43210");
       checks.dueLetters("not replaced", x, !side, "11111");
       checks.due("replace by the same", x.replace(side, 0, 4), true);
-      for (int letter : NOT_LETTERS) {
+      for (int letter : Checks.NOT_LETTERS) {
         checks.due("replace by " + letter, x.replace(side, 2, letter), false);
       }
-      for (int place : NO_PLACES) {
+      for (int place : Checks.outside(5)) {
         checks.due("replace at " + place, x.replace(side, place, 1), false);
       }
-      checks.due("replace just past the end", x.replace(side, 5, 1), false);
       checks.due("replace at no place by no letter", x.replace(side, 5, 5), false);
       checks.dueLetters("after refusals", x, side, "43210");
       checks.dueLetters("after refusals", x, !side, "11111");
@@ -106,7 +102,7 @@ public final class EditingTest {
   }
 
   private static void promise4Shorten() {
-    for (boolean side : SIDES) {
+    for (boolean side : Checks.SIDES) {
       WildcardMatcher x = Checks.of(TEXT_40, PATTERN_12);
       String all = side ? PATTERN_12 : TEXT_40;
       for (int taken = 1; taken <= all.length(); taken++) {
@@ -126,7 +122,7 @@ public final class EditingTest {
 
   // A first-in, first-out run that goes round the whole capacity several times.
   private static void promise4ShortenThenType() {
-    for (boolean side : SIDES) {
+    for (boolean side : Checks.SIDES) {
       String row = side ? PATTERN_12 : TEXT_40;
       WildcardMatcher x = Checks.of(TEXT_40, PATTERN_12);
       for (int i = 0; i < 100; i++) {
@@ -143,8 +139,8 @@ public final class EditingTest {
     WildcardMatcher x = Checks.of("01234", "432");
     checks.dueLetters("letters", x, false, "01234");
     checks.dueLetters("letters", x, true, "432");
-    for (boolean side : SIDES) {
-      for (int place : NO_PLACES) {
+    for (boolean side : Checks.SIDES) {
+      for (int place : Checks.outside(side ? 3 : 5)) {
         checks.due("letter " + place, x.letter(side, place), WildcardMatcher.BAD);
       }
     }

@@ -1,4 +1,4 @@
-// Promises 7 to 13: what is asked of the shifts and of the turned shifts.
+// Promises 7 to 13: what is asked of the shifts and of the turned shifts. Their boundaries are in ShiftBoundaryTest.
 public final class ShiftTest {
   private static final int BAD = WildcardMatcher.BAD;
   private static final int NONE = WildcardMatcher.NONE;
@@ -7,7 +7,6 @@ public final class ShiftTest {
   private static final Checks checks = new Checks();
 
   public static void main(String[] args) {
-    everyPairOfLetters();
     promise7Matches();
     promise8MatchCount();
     promise9NextMatch();
@@ -15,28 +14,8 @@ public final class ShiftTest {
     promise11BestShift();
     promise12Within();
     promise13TurnedMismatches();
-    emptyPattern();
-    patternLongerThanText();
     fullTextAndPattern();
-    questionsChangeNothing();
     checks.finish();
-  }
-
-  private static void everyPairOfLetters() {
-    for (int a = 0; a <= 4; a++) {
-      for (int b = 0; b <= 4; b++) {
-        boolean agree = a == b || a == 0 || b == 0;
-        String pair = a + " and " + b;
-        WildcardMatcher x = Checks.of("" + a, "" + b);
-        checks.due("matches " + pair, x.matches(0), agree);
-        checks.due("matchCount " + pair, x.matchCount(), agree ? 1 : 0);
-        checks.due("nextMatch " + pair, x.nextMatch(0), agree ? 0 : NONE);
-        checks.due("mismatches " + pair, x.mismatches(0), agree ? 0 : 1);
-        checks.due("within " + pair, x.within(0), agree ? 1 : 0);
-        checks.due("bestShift " + pair, x.bestShift(), 0);
-        checks.due("turnedMismatches " + pair, x.turnedMismatches(0), agree ? 0 : 1);
-      }
-    }
   }
 
   // Agreeing is not transitive: a wildcard agrees with 1 and with 2, which do not agree with each other.
@@ -131,43 +110,6 @@ public final class ShiftTest {
     }
   }
 
-  private static void emptyPattern() {
-    for (int n = 0; n <= 40; n++) {
-      WildcardMatcher x = Checks.of("1".repeat(n), "");
-      checks.due("empty pattern: matches 0", x.matches(0), true);
-      checks.due("empty pattern: matches n", x.matches(n), true);
-      checks.due("empty pattern: matches n + 1", x.matches(n + 1), false);
-      checks.due("empty pattern: matchCount", x.matchCount(), n + 1);
-      checks.due("empty pattern: nextMatch n", x.nextMatch(n), n);
-      checks.due("empty pattern: nextMatch n + 1", x.nextMatch(n + 1), NONE);
-      checks.due("empty pattern: mismatches n", x.mismatches(n), 0);
-      checks.due("empty pattern: mismatches n + 1", x.mismatches(n + 1), BAD);
-      checks.due("empty pattern: bestShift", x.bestShift(), 0);
-      checks.due("empty pattern: within 0", x.within(0), n + 1);
-      checks.due("empty pattern: within -1", x.within(-1), 0);
-      checks.due("empty pattern: turned n - 1", x.turnedMismatches(n - 1), n == 0 ? BAD : 0);
-      checks.due("empty pattern: turned n", x.turnedMismatches(n), BAD);
-    }
-  }
-
-  private static void patternLongerThanText() {
-    for (int n = 0; n < 12; n++) {
-      WildcardMatcher x = Checks.of("0".repeat(n), "0".repeat(n + 1));
-      for (int i = -2; i <= n + 1; i++) {
-        checks.due("too long: matches", x.matches(i), false);
-        checks.due("too long: nextMatch", x.nextMatch(i), NONE);
-        checks.due("too long: mismatches", x.mismatches(i), BAD);
-        checks.due("too long: within", x.within(i), 0);
-        checks.due("too long: turned", x.turnedMismatches(i), BAD);
-      }
-      checks.due("too long: matchCount", x.matchCount(), 0);
-      checks.due("too long: bestShift", x.bestShift(), NONE);
-      checks.due("too long: type", x.type(false, 1), n + 1);
-      checks.due("long enough: matchCount", x.matchCount(), 1);
-      checks.due("long enough: turned", x.turnedMismatches(n), 0);
-    }
-  }
-
   private static void fullTextAndPattern() {
     WildcardMatcher x = Checks.of("1".repeat(28) + "2".repeat(12), "2".repeat(12));
     for (int i = 0; i <= 28; i++) {
@@ -183,20 +125,5 @@ public final class ShiftTest {
     checks.due("full: matchCount", x.matchCount(), 1);
     checks.due("full: nextMatch", x.nextMatch(LEAST), 28);
     checks.due("full: bestShift", x.bestShift(), 28);
-  }
-
-  private static void questionsChangeNothing() {
-    WildcardMatcher x = Checks.of("120341", "120");
-    for (int i = -1; i <= 7; i++) {
-      x.matches(i);
-      x.nextMatch(i);
-      x.mismatches(i);
-      x.within(i);
-      x.turnedMismatches(i);
-    }
-    x.matchCount();
-    x.bestShift();
-    checks.dueLetters("asked", x, false, "120341");
-    checks.dueLetters("asked", x, true, "120");
   }
 }
