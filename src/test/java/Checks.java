@@ -1,3 +1,5 @@
+import java.lang.reflect.Method;
+
 // What the project's tests share: counting wrong answers, and filling an object.
 // Nothing here, and no test, makes more than 512 calls on one object: what later calls answer is free.
 final class Checks {
@@ -134,5 +136,14 @@ final class Checks {
     StringBuilder row = new StringBuilder(String.valueOf(letter).repeat(length));
     row.setCharAt(place, other);
     return row.toString();
+  }
+
+  // A method as the tests write it: int type(boolean, int).
+  static String told(Method method) {
+    StringBuilder types = new StringBuilder();
+    for (Class<?> type : method.getParameterTypes()) {
+      types.append(types.length() == 0 ? "" : ", ").append(type.getName());
+    }
+    return method.getReturnType().getName() + " " + method.getName() + "(" + types + ")";
   }
 }

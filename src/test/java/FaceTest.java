@@ -13,6 +13,9 @@ public final class FaceTest {
     Class<?> face = WildcardMatcher.class;
     checks.due("the class is public", Modifier.isPublic(face.getModifiers()), true);
     checks.due("the class is final", Modifier.isFinal(face.getModifiers()), true);
+    checks.due("the class has no package", face.getPackageName().isEmpty(), true);
+    checks.due("the class extends Object alone", face.getSuperclass() == Object.class, true);
+    checks.due("interfaces", face.getInterfaces().length, 0);
     checks.due("nested classes", face.getDeclaredClasses().length, 0);
     checks.due("FULL", WildcardMatcher.FULL, -1);
     checks.due("BAD", WildcardMatcher.BAD, -2);
@@ -39,7 +42,7 @@ public final class FaceTest {
     Set<String> publicNames = new TreeSet<>();
     for (Method method : face.getDeclaredMethods()) {
       if (!Modifier.isPrivate(method.getModifiers())) {
-        got.add(told(method));
+        got.add(Checks.told(method));
         publicNames.add(method.getName());
         checks.due(method + " is public", Modifier.isPublic(method.getModifiers()), true);
         checks.due(method + " is static", Modifier.isStatic(method.getModifiers()), false);
@@ -52,14 +55,6 @@ public final class FaceTest {
     }
   }
 
-  private static String told(Method method) {
-    StringBuilder types = new StringBuilder();
-    for (Class<?> type : method.getParameterTypes()) {
-      types.append(types.length() == 0 ? "" : ", ").append(type.getName());
-    }
-    return method.getReturnType().getName() + " " + method.getName() + "(" + types + ")";
-  }
-
   private static void fields(Class<?> face) {
     Set<String> constants = Set.of("FULL", "BAD", "NONE");
     Set<String> seen = new TreeSet<>();
@@ -68,6 +63,8 @@ public final class FaceTest {
       boolean named = constants.contains(field.getName());
       if (named) {
         seen.add(field.getName());
+        checks.due(field + " is a static final int", Modifier.isStatic(modifiers) && Modifier.isFinal(modifiers)
+            && field.getType() == int.class, true);
       }
       checks.due(field + " is public", Modifier.isPublic(modifiers), named);
       checks.due(field + " is private", Modifier.isPrivate(modifiers), !named);
